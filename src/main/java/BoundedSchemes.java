@@ -19,6 +19,9 @@ public final class BoundedSchemes {
     private static final int LABELS = 3;
     private static final int STEP_LIMIT = 60;
     private static final int STEPS_A_CALL = 20;
+    // How far calls go into types and values. A type has at most 16 levels, and the bounds in one
+    // text add fewer than 20; a value of more than 34 levels has more than 100 characters.
+    private static final int LEVELS = 40;
 
     private final char[] text = new char[TEXT_LIMIT];
     private final KeptType[] slots = new KeptType[SLOTS];
@@ -255,10 +258,9 @@ public final class BoundedSchemes {
      * number of open type variables; the bound of level k is a type in a place with k open ones.
      */
     private static final class TypeRoom {
-        private static final int NODES = 2000;
+        // No text was found, by a long search, whose types need more than a hundred nodes at once.
+        private static final int NODES = 1000;
         private static final int OPEN_LIMIT = 64;
-        // Types have at most 16 levels, and the bounds in one text add fewer than 20.
-        private static final int LEVELS = 40;
 
         // The three low bits of a code tell which parts a node has. Those of a record are its
         // labels, so & and | of two such codes are those of the common labels and of all labels.
@@ -863,7 +865,7 @@ public final class BoundedSchemes {
                 return NONE;
             }
             if (take('[')) {
-                return recordType(depth);
+                return recordParts(true, NONE, depth);
             }
             if (depth == DEPTH_LIMIT) {
                 return NONE;
@@ -901,34 +903,44 @@ public final class BoundedSchemes {
             return body == NONE ? NONE : room.make(TypeRoom.SCHEME, bound, body, TypeRoom.TOP_NODE);
         }
 
-        private int recordType(int depth) {
-            int code = TypeRoom.RECORD;
-            int x = TypeRoom.TOP_NODE;
-            int y = TypeRoom.TOP_NODE;
-            int z = TypeRoom.TOP_NODE;
-            boolean ended = take(']');
-            for (int lowest = 0; !ended && lowest < LABELS; lowest++) {
+        /** A record, or a record type, whose opening sign is taken; a record's node is there already. */
+        private int recordParts(boolean ofTypes, int node, int depth) {
+            char end = ofTypes ? ']' : '}';
+            int mark = 0;
+            int x = 0;
+            int y = 0;
+            int z = 0;
+            int lowest = 0;
+            boolean ended = take(end);
+            for (int i = 0; i < LABELS && !ended; i++) {
                 int label = takeLabel(lowest, depth);
-                int type = label == NONE ? NONE : anyType(depth + 1);
-                if (type == NONE) {
+                int part = label == NONE ? NONE : recordPart(ofTypes, depth);
+                if (part == NONE) {
                     return NONE;
                 }
-                code |= 1 << label;
-                x = label == 0 ? type : x;
-                y = label == 1 ? type : y;
-                z = label == 2 ? type : z;
-                lowest = label;
-                ended = take(']');
-                if (!ended && !takeComma(label)) {
+                mark |= 1 << label;
+                x = label == 0 ? part : x;
+                y = label == 1 ? part : y;
+                z = label == 2 ? part : z;
+                lowest = label + 1;
+                ended = take(end);
+                // Behind the last of all labels none can follow, so a comma can't stand there.
+                if (!ended && (lowest >= LABELS || !take(','))) {
                     return NONE;
                 }
             }
-            return ended ? room.make(code, x, y, z) : NONE;
+            if (ofTypes) {
+                return room.make(TypeRoom.RECORD + mark, x, y, z);
+            }
+            term.fill(node, mark, x, y, z);
+            return node;
         }
 
-        // Behind the last of all labels none can follow, so a comma can't stand there.
-        private boolean takeComma(int label) {
-            return label < LABELS - 1 && take(',');
+        private int recordPart(boolean ofTypes, int depth) {
+            if (ofTypes) {
+                return anyType(depth + 1);
+            }
+            return take('=') ? anyTerm(depth + 1) : NONE;
         }
 
         private int anyTerm(int depth) {
@@ -943,7 +955,7 @@ public final class BoundedSchemes {
                 return NONE;
             }
             if (take('{')) {
-                return record(term.add(Term.RECORD, place), depth);
+                return recordParts(false, term.add(Term.RECORD, place), depth);
             }
             return depth == DEPTH_LIMIT ? NONE : holdingTerm(place, depth);
         }
@@ -1014,32 +1026,6 @@ public final class BoundedSchemes {
             int type = general == NONE ? NONE : outerType(depth + 1);
             term.fill(node, 0, general, type, 0);
             return type == NONE ? NONE : node;
-        }
-
-        private int record(int node, int depth) {
-            int mark = 0;
-            int x = 0;
-            int y = 0;
-            int z = 0;
-            boolean ended = take('}');
-            for (int lowest = 0; !ended && lowest < LABELS; lowest++) {
-                int label = takeLabel(lowest, depth);
-                int part = label == NONE || !take('=') ? NONE : anyTerm(depth + 1);
-                if (part == NONE) {
-                    return NONE;
-                }
-                mark |= 1 << label;
-                x = label == 0 ? part : x;
-                y = label == 1 ? part : y;
-                z = label == 2 ? part : z;
-                lowest = label;
-                ended = take('}');
-                if (!ended && !takeComma(label)) {
-                    return NONE;
-                }
-            }
-            term.fill(node, mark, x, y, z);
-            return ended ? node : NONE;
         }
 
         private int selection(int node, int depth) {
@@ -1434,8 +1420,7 @@ public final class BoundedSchemes {
         }
 
         private void writeOn(Page page, int value, int deep) {
-            // Each level has put three characters, so what is refused here is too long anyway.
-            if (value == NONE || deep > PAGE_LIMIT || page.isOver()) {
+            if (value == NONE || deep >= LEVELS || page.isOver()) {
                 return;
             }
             int kind = term.kind[values.node[value]];

@@ -45,7 +45,8 @@ final class Texts {
     // ---- types
 
     Oracle.Ty type(Map<String, Oracle.Ty> bounds, int budget) {
-        int pick = below(budget < 2 ? 4 : 12);
+        // A large type should seldom end at once.
+        int pick = budget > 4 && below(4) > 0 ? 3 + below(9) : below(budget < 2 ? 4 : 12);
         if (pick < 2 && !bounds.isEmpty()) {
             List<String> names = new ArrayList<>(bounds.keySet());
             return new Oracle.Var(names.get(below(names.size())));
@@ -251,8 +252,9 @@ final class Texts {
     }
 
     private Made application(Place place, int budget) {
-        Made left = term(place, budget - 1);
-        if (!(oracle.exposed(left.type(), place.bounds()) instanceof Oracle.Fun f)) {
+        Made left = below(2) == 0 ? term(place, budget - 1)
+            : function(place, type(place.bounds(), 1 + below(4)), budget - 1);
+        if (left == null || !(oracle.exposed(left.type(), place.bounds()) instanceof Oracle.Fun f)) {
             return null;
         }
         Made right = fitting(place, f.from(), budget / 2, 0);
@@ -260,8 +262,9 @@ final class Texts {
     }
 
     private Made special(Place place, int budget) {
-        Made whole = term(place, budget - 1);
-        if (!(oracle.exposed(whole.type(), place.bounds()) instanceof Oracle.Scheme s)) {
+        Made whole = below(2) == 0 ? term(place, budget - 1)
+            : general(place, type(place.bounds(), 1 + below(4)), budget - 1);
+        if (whole == null || !(oracle.exposed(whole.type(), place.bounds()) instanceof Oracle.Scheme s)) {
             return null;
         }
         for (int i = 0; i < 6; i++) {
@@ -276,7 +279,7 @@ final class Texts {
     }
 
     private Made selection(Place place, int budget) {
-        Made whole = term(place, budget - 1);
+        Made whole = below(2) == 0 ? term(place, budget - 1) : record(place, budget - 1);
         if (!(oracle.exposed(whole.type(), place.bounds()) instanceof Oracle.Rec r) || r.parts().isEmpty()) {
             return null;
         }
