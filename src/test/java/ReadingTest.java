@@ -122,6 +122,9 @@ public final class ReadingTest {
         typeFault(Checks.times("(", 23) + "<", 23);
         typeFault(Checks.times("(", 23) + "[x", 24);
         typeFault(Checks.times("(", 22) + "[x", 24);
+        typeFault(Checks.times("(", 23) + "T>(", 25);
+        typeFault(Checks.times("(", 23) + "T><", 25);
+        typeFault(Checks.times("(", 23) + "T>[x", 26);
         typeFault(Checks.times("(", 22) + "[xT,yT,zT]>", 33);
         typeFault(Checks.times("(", 22) + "[x(", 24);
         typeFault(Checks.times("(", 22) + "[xT,y<", 27);
@@ -238,6 +241,13 @@ public final class ReadingTest {
         termFault(Checks.times(".x", 21) + "\\a:[x[]].a", NONE);
         termFault(Checks.times(".x", 21) + "\\a:[x[x", 48);
         termFault(Checks.times(".x", 22) + "/P:<", 47);
+        termFault(Checks.times(".x", 22) + "/P:T.(", 49);
+        termFault(Checks.times(".x", 22) + "/P:T.{x", 50);
+        termFault(Checks.times(".x", 22) + "(a(", 46);
+        termFault(Checks.times(".x", 22) + "(a{}", 48);
+        termFault(Checks.times(".x", 22) + "?1a.", 47);
+        termFault(Checks.times(".x", 22) + "?1(", 46);
+        termFault(Checks.times(".x", 22) + "{x=a,y=?", 51);
         termFault(Checks.times("@", 23) + "{}" + Checks.times("T", 23), NONE);
         termFault(Checks.times("@", 23) + "{}(", 25);
         termFault(Checks.times("@", 23) + "{}T(T>T)", 31);
