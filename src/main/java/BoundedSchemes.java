@@ -232,7 +232,7 @@ public final class BoundedSchemes {
         }
     }
 
-    /** A closed type that lasts from call to call: the codes of its nodes, each before its parts. */
+    /** A closed type that lasts from call to call: its nodes' codes, each before its parts. */
     private static final class KeptType {
         private final int[] codes = new int[SIZE_LIMIT];
         private int count;
@@ -258,7 +258,8 @@ public final class BoundedSchemes {
      * number of open type variables; the bound of level k is a type in a place with k open ones.
      */
     private static final class TypeRoom {
-        // No text was found, by a long search, whose types need more than a hundred nodes at once.
+        // A text has at most 60 types. The most nodes that calls made from them, in a search for
+        // texts that need many, were 107 at once, so this is far above what any call can need.
         private static final int NODES = 1000;
         private static final int OPEN_LIMIT = 64;
 
@@ -670,7 +671,7 @@ public final class BoundedSchemes {
     /** The nodes of one term, the whole being node 0; a type in it is a node of the type room. */
     private static final class Term {
         private static final int VARIABLE = 0; // first: the node of the function that binds it
-        private static final int FUNCTION = 1; // mark: open type variables; first: type; second: body
+        private static final int FUNCTION = 1; // mark: open types; first: type; second: body
         private static final int APPLY = 2;    // first, second: the two terms
         private static final int GENERAL = 3;  // first: bound; second: body
         private static final int SPECIAL = 4;  // first: term; second: type
@@ -903,7 +904,7 @@ public final class BoundedSchemes {
             return body == NONE ? NONE : room.make(TypeRoom.SCHEME, bound, body, TypeRoom.TOP_NODE);
         }
 
-        /** A record, or a record type, whose opening sign is taken; a record's node is there already. */
+        /** A record or a record type, the opening sign being taken; NODE is the record's own. */
         private int recordParts(boolean ofTypes, int node, int depth) {
             char end = ofTypes ? ']' : '}';
             int mark = 0;
@@ -1127,7 +1128,10 @@ public final class BoundedSchemes {
 
         private int ofGeneral(int node, int open, int depth) {
             int bound = term.first[node];
-            int body = room.openOne(bound, open) ? find(term.second[node], open + 1, depth + 1) : NONE;
+            if (!room.openOne(bound, open)) {
+                return NONE;
+            }
+            int body = find(term.second[node], open + 1, depth + 1);
             return body == NONE ? NONE : room.make(TypeRoom.SCHEME, bound, body, TypeRoom.TOP_NODE);
         }
 
@@ -1451,7 +1455,7 @@ public final class BoundedSchemes {
         }
     }
 
-    /** What is written is a draft first, so that a text that is too long leaves the page as it is. */
+    /** What is written is a draft first, so that one that is too long leaves the page as it is. */
     private static final class Page {
         private final char[] shown = new char[PAGE_LIMIT];
         private final char[] draft = new char[PAGE_LIMIT];
