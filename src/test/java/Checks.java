@@ -1,5 +1,11 @@
 /** What the tests share: counting wrong answers, and calls that need many characters. */
 final class Checks {
+    /** A term of as many characters as the text has, with a value after 58 steps. */
+    static final String SIXTY_CHARACTERS = "(\\c:((T>T)>T).(c\\d:T.(c\\d:T.?0?0ddd))\\a:(T>T).(a(a(a(aa)))))";
+    /** As long a term, which would have its value after 62 steps. */
+    static final String MORE_THAN_SIXTY_STEPS =
+        "(\\c:((T>T)>T).(c\\d:T.(c\\d:T.?0dd))\\a:(T>T).(a(a(a(a(aa))))))";
+
     private int wrong;
 
     void due(String what, long got, long want) {
