@@ -35,6 +35,7 @@ public final class PromisesBoundaryTest {
         valuesOnThePage();
         aHundredCharacters();
         fiveHundredAndTwelveCalls();
+        manyCallsOfOneKind();
         checks.end();
     }
 
@@ -560,5 +561,45 @@ public final class PromisesBoundaryTest {
             s.value();
             s.charAt(i - 900);
         }
+    }
+
+    /** What one call needs is free again for the next one, also when no other kind comes between. */
+    private static void manyCallsOfOneKind() {
+        String left = "<P:[xT]>[x(P>T),y[y(P>P)]]";
+        String right = "<Q:[xT]>[x(Q>T),z[z(Q>Q)]]";
+        for (int kind = 0; kind < 8; kind++) {
+            BoundedSchemes s = Checks.withTypes(left, right);
+            Checks.readTerm(s, "(\\a:T.{x={x=a},y={y=a},z={z=a}}{x={},y={},z={}})");
+            int times = kind == 6 ? 130 : 390;
+            for (int i = 0; i < times; i++) {
+                checks.due("call " + i + " of kind " + kind, callOfKind(s, kind), due(kind));
+            }
+            checks.due("a run behind kind " + kind, callOfKind(s, 6), due(6));
+        }
+    }
+
+    private static int callOfKind(BoundedSchemes s, int kind) {
+        switch (kind) {
+            case 0:
+                return s.below(0, 1);
+            case 1:
+                return s.same(0, 1);
+            case 2:
+                return s.join(0, 1, 3);
+            case 3:
+                return s.meet(0, 1, 3);
+            case 4:
+                return s.write(1);
+            case 5:
+                return s.start() ? 1 : 0;
+            case 6:
+                return s.start() ? s.step(20) + s.value() : BAD;
+            default:
+                return s.fits(1) ? 1 : 0;
+        }
+    }
+
+    private static int due(int kind) {
+        return new int[] {0, 0, 7, 15, 26, 1, 71, 0}[kind];
     }
 }

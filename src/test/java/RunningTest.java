@@ -13,6 +13,8 @@ public final class RunningTest {
         wrongCalls();
         startingAgain();
         aLongRun();
+        longerRuns();
+        afterARunThatStops();
         aLargeValue();
         longValues();
         checks.end();
@@ -134,6 +136,46 @@ public final class RunningTest {
         checks.due("the value", s.value(), 1);
         checks.due("its text", Checks.page(s), "f");
         checks.due("none is left", s.step(20), 0);
+    }
+
+    /** A function that calls its argument so many times, handed to itself: 60 steps or more. */
+    private static void longerRuns() {
+        for (int times = 1; times <= 6; times++) {
+            for (int choices = 0; choices <= 5; choices++) {
+                String last = Checks.times("?0", choices) + Checks.times("d", choices + 1);
+                String calls = Checks.times("(a", times) + "a" + Checks.times(")", times);
+                String term = "(\\c:((T>T)>T).(c\\d:T.(c\\d:T." + last + "))\\a:(T>T)." + calls + ")";
+                int inner = 1 + times * (1 + choices);
+                if (term.length() <= 60) {
+                    runsFor(term, 2 + times * (1 + inner));
+                }
+            }
+        }
+    }
+
+    private static void runsFor(String term, int steps) {
+        BoundedSchemes s = Checks.withTerm(term);
+        s.start();
+        int most = Math.min(steps, 60);
+        for (int made = 0; made < most; made += 7) {
+            checks.due("no value of " + term + " after " + made, s.value(), NONE);
+            checks.due("seven steps of " + term, s.step(7), Math.min(7, most - made));
+        }
+        checks.due("no more steps of " + term, s.step(20), 0);
+        checks.due("steps of " + term, s.steps(), most);
+        checks.due("the value of " + term, s.value(), steps <= 60 ? 1 : NONE);
+    }
+
+    /** Nothing of a run that stops in the midst of a term stays in the next one. */
+    private static void afterARunThatStops() {
+        BoundedSchemes s = Checks.withTerm(Checks.MORE_THAN_SIXTY_STEPS);
+        s.start();
+        s.step(20);
+        checks.due("a new term", Checks.readTerm(s, "?0{x={}}{}"), NONE);
+        s.start();
+        checks.due("its step", s.step(20), 1);
+        checks.due("its value", s.value(), 6);
+        checks.due("its text", Checks.page(s), "{x={}}");
     }
 
     private static void aLargeValue() {

@@ -7,6 +7,7 @@ public final class TermTypeTest {
     public static void main(String[] args) {
         typesByRule();
         typesOfOpenVariables();
+        variablesUnderLabels();
         typesWithJoins();
         brokenRules();
         tooLargeTypes();
@@ -66,6 +67,29 @@ public final class TermTypeTest {
         typed("/P:[xT].\\a:([xT]>T).\\b:P.(ab)", "<P:[xT]>(([xT]>T)>(P>T))");
     }
 
+    /** A variable under some of the labels is renamed, and replaced, under each of them. */
+    private static void variablesUnderLabels() {
+        for (String labels : new String[] {"x", "y", "z", "xy", "xz", "yz", "xyz"}) {
+            String inner = under(labels, "P");
+            typed("\\a:<P:T>" + inner + "./Q:T.a",
+                "(<P:T>" + inner + "><P:T><Q:T>" + under(labels, "Q") + ")");
+            typed("@/P:T.\\a:" + inner + ".a[]", "(" + under(labels, "[]") + ">" + under(labels, "[]") + ")");
+            typed("@/P:T./Q:" + inner + ".{}[]", "<P:" + under(labels, "[]") + ">[]");
+            typed("@/P:T./Q:T.\\a:" + under(labels, "Q") + ".{}[]", "<P:T>(" + inner + ">[])");
+        }
+        typed("@/P:T.\\a:(T>P).aT", "((T>T)>(T>T))");
+        typed("@/P:T.\\a:(P>T).aT", "((T>T)>(T>T))");
+        typed("@/P:T.\\a:[xT,yP].aT", "([xT,yT]>[xT,yT])");
+    }
+
+    private static String under(String labels, String type) {
+        StringBuilder text = new StringBuilder("[");
+        for (int i = 0; i < labels.length(); i++) {
+            text.append(i > 0 ? "," : "").append(labels.charAt(i)).append(type);
+        }
+        return text.append(']').toString();
+    }
+
     private static void typesWithJoins() {
         typed("?0{x={}}{y={}}", "[]");
         typed("?1{x={},y={}}{y={x={}}}", "[y[]]");
@@ -98,6 +122,8 @@ public final class TermTypeTest {
         // Several rules are broken: from the left, each after its parts.
         broken("(.x{}.y{})", 1);
         broken("({}.y{})", 3);
+        broken("(\\a:[xT].a.y{})", 10);
+        broken("(\\a:(T>T).a(\\a:T.a.x{}))", 18);
         broken("{x={},y=.x{},z=({}{})}", 8);
         broken("(({}{})({}{}))", 1);
         broken(".x@.x{}T", 3);

@@ -149,6 +149,10 @@ public final class TypeOrderTest {
         both("(T>[xT])", "(T>[yT])", "(T>[])", "(T>[xT,yT])");
         both("(T>[])", "(T>(T>T))", "(T>T)", NO_MEET);
         both("(([]>T)>T)", "(((T>T)>T)>T)", "((T>T)>T)", "(T>T)");
+        both("[z[xT]]", "[z[yT]]", "[z[]]", "[z[xT,yT]]");
+        both("[xT,y[]]", "[xT,y(T>T)]", "[xT,yT]", NO_MEET);
+        both("[yT,z[]]", "[yT,z(T>T)]", "[yT,zT]", NO_MEET);
+        both("[x[],y[],z[]]", "[x[],y(T>T),z(T>T)]", "[x[],yT,zT]", NO_MEET);
         both("[x[xT],y[yT]]", "[x[yT],y[yT],zT]", "[x[],y[yT]]", "[x[xT,yT],y[yT],zT]");
     }
 
@@ -162,6 +166,7 @@ public final class TypeOrderTest {
         both("<P:T><Q:P>(Q>T)", "<P:T><Q:P>(P>T)", "<P:T><Q:P>(Q>T)", "<P:T><Q:P>(P>T)");
         both("<P:T><Q:T>(P>T)", "<P:T><Q:T>(Q>T)", "<P:T><Q:T>T", "<P:T><Q:T>(T>T)");
         both("<P:[xT]><Q:[yT]>P", "<P:[xT]><Q:[yT]>Q", "<P:[xT]><Q:[yT]>[]", NO_MEET);
+        both("<P:<Q:T>Q>[xP]", "<P:<Q:T>Q>[x<S:T>S,yT]", "<P:<P:T>P>[x<Q:T>Q]", "<P:<P:T>P>[xP,yT]");
         both("<P:T>[xP]", "<P:T>[yP]", "<P:T>[]", "<P:T>[xP,yP]");
         both("<P:<Q:T>(Q>Q)><R:T>P", "<P:<Q:T>(Q>Q)><R:T><Q:T>(Q>[])",
             "<P:<P:T>(P>P)><Q:T><R:T>(R>T)", NO_MEET);
