@@ -1,3 +1,5 @@
+import java.util.Arrays;
+
 /**
  * Types with bounds, terms over them and runs of such terms, as the numbered promises of the
  * document say.
@@ -258,9 +260,12 @@ public final class BoundedSchemes {
      * number of open type variables; the bound of level k is a type in a place with k open ones.
      */
     private static final class TypeRoom {
+        // Most calls make fewer nodes than this; rows that are large from the start would take up
+        // the room of all objects.
+        private static final int FIRST_NODES = 64;
         // A text has at most 60 types. The most nodes that calls made from them, in a search for
         // texts that need many, were 107 at once, so this is far above what any call can need.
-        private static final int NODES = 1000;
+        private static final int MOST_NODES = 16384;
         private static final int OPEN_LIMIT = 64;
 
         // The three low bits of a code tell which parts a node has. Those of a record are its
@@ -274,11 +279,11 @@ public final class BoundedSchemes {
 
         private static final int TOP_NODE = 0;
 
-        private final int[] code = new int[NODES];
-        private final int[] first = new int[NODES];
-        private final int[] second = new int[NODES];
-        private final int[] third = new int[NODES];
-        private final int[] size = new int[NODES];
+        private int[] code = new int[FIRST_NODES];
+        private int[] first = new int[FIRST_NODES];
+        private int[] second = new int[FIRST_NODES];
+        private int[] third = new int[FIRST_NODES];
+        private int[] size = new int[FIRST_NODES];
         private final int[] bounds = new int[OPEN_LIMIT];
         private int count = 1;
 
@@ -291,7 +296,7 @@ public final class BoundedSchemes {
         }
 
         private int make(int newCode, int x, int y, int z) {
-            if (count >= NODES) {
+            if (count >= code.length && !grow()) {
                 return TOP_NODE;
             }
             int node = count;
@@ -305,6 +310,20 @@ public final class BoundedSchemes {
                 + (holds(newCode, 1) ? size[y] : 0)
                 + (holds(newCode, 2) ? size[z] : 0);
             return node;
+        }
+
+        /** Makes the rows longer; false when they may not be. */
+        private boolean grow() {
+            int nodes = Math.min(2 * code.length, MOST_NODES);
+            if (nodes <= code.length) {
+                return false;
+            }
+            code = Arrays.copyOf(code, nodes);
+            first = Arrays.copyOf(first, nodes);
+            second = Arrays.copyOf(second, nodes);
+            third = Arrays.copyOf(third, nodes);
+            size = Arrays.copyOf(size, nodes);
+            return true;
         }
 
         private int variable(int level) {
@@ -1185,15 +1204,16 @@ public final class BoundedSchemes {
     private static final class Values {
         // Each value that a body makes takes up three characters of the text or more.
         private static final int MOST = Machine.BODIES * 20;
+        private static final int FIRST = 16;
 
-        private final int[] node = new int[MOST];
-        private final int[] x = new int[MOST]; // the scope, if the value is no record
-        private final int[] y = new int[MOST];
-        private final int[] z = new int[MOST];
+        private int[] node = new int[FIRST];
+        private int[] x = new int[FIRST]; // the scope, if the value is no record
+        private int[] y = new int[FIRST];
+        private int[] z = new int[FIRST];
         private int count;
 
         private int make(int newNode, int newX) {
-            if (count >= MOST) {
+            if (count >= node.length && !grow()) {
                 return NONE;
             }
             int made = count;
@@ -1203,6 +1223,18 @@ public final class BoundedSchemes {
             y[made] = NONE;
             z[made] = NONE;
             return made;
+        }
+
+        private boolean grow() {
+            int most = Math.min(2 * node.length, MOST);
+            if (most <= node.length) {
+                return false;
+            }
+            node = Arrays.copyOf(node, most);
+            x = Arrays.copyOf(x, most);
+            y = Arrays.copyOf(y, most);
+            z = Arrays.copyOf(z, most);
+            return true;
         }
 
         private int part(int value, int label) {
@@ -1227,13 +1259,14 @@ public final class BoundedSchemes {
     private static final class Machine {
         // A step brings in one body, so 61 bodies are run at the most, the term itself included.
         private static final int BODIES = STEP_LIMIT + 1;
-        private static final int FRAMES = BODIES * DEPTH_LIMIT;
+        private static final int MOST_FRAMES = BODIES * DEPTH_LIMIT;
+        private static final int FIRST_FRAMES = 8;
         private static final int MOVES = 1000000;
 
-        private final int[] frameNode = new int[FRAMES];
-        private final int[] frameScope = new int[FRAMES];
-        private final int[] frameValue = new int[FRAMES];
-        private final int[] frameLabel = new int[FRAMES];
+        private int[] frameNode = new int[FIRST_FRAMES];
+        private int[] frameScope = new int[FIRST_FRAMES];
+        private int[] frameValue = new int[FIRST_FRAMES];
+        private int[] frameLabel = new int[FIRST_FRAMES];
         private final int[] scopeBinder = new int[BODIES];
         private final int[] scopeValue = new int[BODIES];
         private final int[] scopeOuter = new int[BODIES];
@@ -1339,7 +1372,7 @@ public final class BoundedSchemes {
         }
 
         private void push(int value, int label) {
-            if (frames >= FRAMES) {
+            if (frames >= frameNode.length && !grow()) {
                 stopped = true;
                 return;
             }
@@ -1348,6 +1381,18 @@ public final class BoundedSchemes {
             frameValue[frames] = value;
             frameLabel[frames] = label;
             frames++;
+        }
+
+        private boolean grow() {
+            int most = Math.min(2 * frameNode.length, MOST_FRAMES);
+            if (most <= frameNode.length) {
+                return false;
+            }
+            frameNode = Arrays.copyOf(frameNode, most);
+            frameScope = Arrays.copyOf(frameScope, most);
+            frameValue = Arrays.copyOf(frameValue, most);
+            frameLabel = Arrays.copyOf(frameLabel, most);
+            return true;
         }
 
         /** Goes on in a term of which a part has come to the current value. */

@@ -91,7 +91,9 @@ public final class FaceTest {
 
     private static void words() throws IOException {
         String source = Files.readString(Path.of("src/main/java/BoundedSchemes.java"));
-        for (String word : List.of("import ", "package ", "->", "::", "throw ", "try ", "synchronized",
+        checks.due("what is imported", String.join(" ", source.lines()
+            .filter(line -> line.startsWith("import ")).toList()), "import java.util.Arrays;");
+        for (String word : List.of("package ", "->", "::", "throw ", "try ", "synchronized",
             "assert ", "System.", "Random", "Thread", "instanceof", "static {")) {
             checks.due("the word " + word, source.contains(word), false);
         }
