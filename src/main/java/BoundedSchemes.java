@@ -87,6 +87,12 @@ public final class BoundedSchemes {
             return BAD;
         }
         takeSpareAsTerm();
+        // The types that the reader made for the term are still in the room only now.
+        int type = checker.find(0, 0, 1);
+        breakPlace = checker.breakPlace;
+        if (type != NONE) {
+            room.keep(type, termType);
+        }
         return NONE;
     }
 
@@ -220,18 +226,13 @@ public final class BoundedSchemes {
         return size;
     }
 
-    // The types that the reader made for the term are still in the room only now.
     private void takeSpareAsTerm() {
         Term read = spare;
         spare = term;
         term = read;
         hasTerm = true;
         running = false;
-        int type = checker.leastType(term);
-        breakPlace = checker.breakPlace;
-        if (breakPlace == NONE && type != NONE) {
-            room.keep(type, termType);
-        }
+        checker.begin(term);
     }
 
     /** A closed type that lasts from call to call: its nodes' codes, each before its parts. */
@@ -1075,12 +1076,12 @@ public final class BoundedSchemes {
             this.term = term;
         }
 
-        private int leastType(Term newTerm) {
+        private void begin(Term newTerm) {
             term = newTerm;
             breakPlace = NONE;
-            return find(0, 0, 1);
         }
 
+        /** The least type of the term at a node; NONE when it, or a term in it, has none. */
         private int find(int node, int open, int depth) {
             if (depth > DEPTH_LIMIT) {
                 return NONE;
